@@ -33,6 +33,10 @@ final class ChanceTests {
         through(maps, 7, 3, 8);
         maps.storm(0);
         through(maps, 7, 3, 8);
+        maps.odds(1);
+        through(maps, 7, 1, 16);
+        maps.odds(15);
+        through(maps, 7, 15, 16);
         maps.odds(0);
         through(maps, 7, 0, 1);
         through(maps, 6, 1, 1);
@@ -56,6 +60,8 @@ final class ChanceTests {
         checks.due("of 5: 2", 2, maps.sure(5, 0, 0));
         checks.due("of 9: none", NONE, maps.sure(9, 0, 0));
         checks.due("on night 1 channel 1 is 0", NONE, maps.sure(1, 1, 0));
+        checks.due("not in a storm alone", NONE, Checks.with("af4j1").sure(5, 0, 0));
+        checks.due("not without a storm alone", NONE, Checks.with("af5j1").sure(5, 0, 0));
         maps.storm(0);
         checks.due("whatever storms are told", 2, maps.sure(5, 0, 0));
         checks.due("i -1", BAD, maps.sure(1, 0, -1));
@@ -80,6 +86,12 @@ final class ChanceTests {
         safest(maps, 8, 759375, 1048576, 0);
         // The sixth has 1 or 8: a ship of 1 is certain of it.
         safest(maps, 1, 1, 1, 5, NONE);
+        DayOldMaps hardly = Checks.with("ac1s1;cf9s1;ab0j1;bc0j1;cd0j1;de0j1;ef0j1;af8s1");
+        hardly.odds(1);
+        safest(hardly, 9, 1, 256, 2, 3, 1, NONE);
+        DayOldMaps least = Checks.with("ac1s1;ef0j1;ab0j1;bc0j1;cd0j1;de0j1;af8s1");
+        least.odds(1);
+        safest(least, 9, 1, 1048576, 2, 3, 4, 5, 1);
         maps.odds(16);
         safest(maps, 8, 1, 1, 5);
         // Of no hope at all any row is as good, and the least of any goes by closed channels.

@@ -169,13 +169,13 @@ final class SheetTests {
 
     private void counting() {
         checks.begin("promise 36");
-        DayOldMaps maps = Checks.with("ab5j1;bf3j1;af9r9;cf4s1");
+        DayOldMaps maps = Checks.with("ab5w1;bf3j1;af9r9;cf4s1");
         maps.storm(0);
         maps.storm(1);
         maps.sounded(1, 1, 1);
         maps.odds(11);
         maps.lose(0);
-        int[] due = {4, 23, 2, 1, 11, 21, 2, 2, 1};
+        int[] due = {4, 23, 2, 1, 11, 21, 1, 2, 1};
         for (int what = 0; what < due.length; what++) {
             checks.due("count(" + what + ")", due[what], maps.count(what));
         }
@@ -189,6 +189,7 @@ final class SheetTests {
         DayOldMaps most = Checks.with("ab1w1;ab1w1;ab1w1;bc1w1;bc1w1;bc1w1;cd1w1;cd1w1;cd1w1;"
             + "de1w1;de1w1;de1w1;ef1w1;ef1w1;ef1w1;ef1w1");
         checks.due("the most rows", 324, most.count(7));
+        checks.due("one that jumps", 1, Checks.with("af1j1").count(6));
         checks.due("channels of depth 0 count", 1, Checks.with("af0s1").count(7));
     }
 

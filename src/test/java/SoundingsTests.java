@@ -113,6 +113,9 @@ final class SoundingsTests {
         maps.sounded(2, 0, 6);
         checks.due("it walks each two", 1 << 9, maps.next(0, 9));
         checks.due("from 9 on 0 again", 1, maps.next(0, 10));
+        maps.forget();
+        maps.sounded(3, 0, 8);
+        checks.due("it walks each night", 1 << 4, maps.next(0, 9));
         maps.sounded(0, 0, 0);
         checks.due("no law, no depth", 0, maps.next(0, 9));
         checks.due("night 100", BAD, maps.next(0, 100));
@@ -156,6 +159,7 @@ final class SoundingsTests {
         checks.due("night 47 is the twentieth", 47, maps.tells(0, 28));
         checks.due("night 69 is the twenty-first", 55, maps.tells(0, 49));
         checks.due("night 69 is the twentieth", 69, maps.tells(0, 50));
+        checks.due("night 99 counts, and none behind it", 99, maps.tells(0, 96));
     }
 
     private void wreck() {

@@ -79,6 +79,7 @@ final class WaysTests {
         checks.due("draft(100)", BAD, maps.draft(100));
         checks.due("draft of no delta", NONE, new DayOldMaps().draft(0));
         checks.due("draft of 0", NONE, Checks.with("af0s1").draft(0));
+        checks.due("draft of 1", 1, Checks.with("af1s1").draft(0));
         checks.due("draft of 9", 9, Checks.with("af9s1").draft(0));
     }
 
