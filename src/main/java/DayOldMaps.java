@@ -495,9 +495,8 @@ public final class DayOldMaps {
         return Math.max(0, night - 1);
     }
 
-    /** A fraction by a power of two, in lowest terms: above (what = 0), below (1). */
+    /** A fraction by a power of two, in lowest terms (0 by 1): above (what = 0), below (1). */
     private static int inLowestTerms(int above, int below, int what) {
-        if (above == 0) return what;
         int top = above, bottom = below;
         for (int k = 0; k < 32 && top % 2 == 0 && bottom % 2 == 0; k++) {
             top /= 2;

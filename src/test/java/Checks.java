@@ -1,11 +1,25 @@
+import java.util.Set;
+import java.util.TreeSet;
+
 /** Counts checks, and tells those whose answer is not the one that is due. */
 final class Checks {
     private int passed;
     private int failed;
     private String part = "";
+    private final Set<Integer> promisesWithEdges = new TreeSet<>();
 
     void begin(String name) {
         part = name;
+    }
+
+    /** The checks that follow are of these words of the document, which belong to a promise. */
+    void edge(int promise, String words) {
+        begin("promise " + promise + ", \"" + words + "\"");
+        promisesWithEdges.add(promise);
+    }
+
+    boolean hasEdges(int promise) {
+        return promisesWithEdges.contains(promise);
     }
 
     void due(String what, long want, long got) {
@@ -34,6 +48,13 @@ final class Checks {
         return maps;
     }
 
+    /** The text of a delta in which one channel stands so many times. */
+    static String times(int many, String channel) {
+        StringBuilder text = new StringBuilder();
+        for (int k = 0; k < many; k++) text.append(k > 0 ? ";" : "").append(channel);
+        return text.toString();
+    }
+
     static void type(DayOldMaps maps, String text) {
         for (int i = 0; i < text.length(); i++) maps.type(text.charAt(i));
     }
@@ -42,5 +63,10 @@ final class Checks {
     static void fill(DayOldMaps maps, int s, int form, int... items) {
         maps.sheet(s, form, items.length);
         for (int i = 0; i < items.length; i++) maps.lay(s, form, i, items[i]);
+    }
+
+    /** Numbers that are not among low to high: just outside, a step on, and as far as can be. */
+    static int[] outside(int low, int high) {
+        return new int[] {-2147483648, low - 2, low - 1, high + 1, high + 2, 2147483647};
     }
 }
