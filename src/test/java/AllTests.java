@@ -22,6 +22,7 @@ public final class AllTests {
         }
         new ModelTests(checks).run();
         new LanguageTests(checks).run();
+        new ReadmeTests(checks).run();
         if (!checks.end()) System.exit(1);
     }
 }
