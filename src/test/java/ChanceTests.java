@@ -46,6 +46,14 @@ final class ChanceTests {
         through(Checks.with("af9j1"), 9, 3, 4);
         through(maps, 7, 5, 16);
         through(new DayOldMaps(), 1, 0, 1);
+        // The first is 5 deep from night 3 on; till then all hangs on the second one.
+        DayOldMaps calm = Checks.with("af2w1;af9j1"), stormy = Checks.with("af2w1;af0j1");
+        for (int night = 0; night < 6; night++) {
+            checks.due("if calm, above, " + night, night < 3 ? 3 : 1, calm.through(5, night, 0));
+            checks.due("if calm, below, " + night, night < 3 ? 4 : 1, calm.through(5, night, 1));
+            checks.due("if stormy, above, " + night, 1, stormy.through(5, night, 0));
+            checks.due("if stormy, below, " + night, night < 3 ? 4 : 1, stormy.through(5, night, 1));
+        }
         checks.due("what 2", BAD, maps.through(1, 0, 2));
         checks.due("what -1", BAD, maps.through(1, 0, -1));
     }
@@ -62,6 +70,11 @@ final class ChanceTests {
         checks.due("on night 1 channel 1 is 0", NONE, maps.sure(1, 1, 0));
         checks.due("not in a storm alone", NONE, Checks.with("af4j1").sure(5, 0, 0));
         checks.due("not without a storm alone", NONE, Checks.with("af5j1").sure(5, 0, 0));
+        DayOldMaps shifts = Checks.with("af2w1;af9s1");
+        int[] byNight = {1, 1, 1, 0, 0, 0, 0, 0, NONE, NONE};
+        for (int night = 0; night < byNight.length; night++) {
+            checks.due("sure in night " + night, byNight[night], shifts.sure(5, night, 0));
+        }
         maps.storm(0);
         checks.due("whatever storms are told", 2, maps.sure(5, 0, 0));
         checks.due("i -1", BAD, maps.sure(1, 0, -1));
@@ -100,6 +113,12 @@ final class ChanceTests {
         safest(maps, 8, 1, 1, 5);
         safest(new DayOldMaps(), 1, 0, 1, NONE, NONE, NONE, NONE, NONE);
         safest(Checks.with("ab9w1;cf9w1"), 1, 0, 1, NONE);
+        DayOldMaps shifts = Checks.with("af9j1;af2w1");
+        for (int night = 0; night < 6; night++) {
+            checks.due("above in night " + night, night < 3 ? 3 : 1, shifts.safest(5, night, -2));
+            checks.due("below in night " + night, night < 3 ? 4 : 1, shifts.safest(5, night, NONE));
+            checks.due("by in night " + night, night < 3 ? 0 : 1, shifts.safest(5, night, 0));
+        }
         checks.due("i -3", BAD, maps.safest(1, 0, -3));
         checks.due("i 5", BAD, maps.safest(1, 0, 5));
     }
@@ -160,6 +179,13 @@ final class ChanceTests {
         low.odds(16);
         low.storm(20);
         checks.due("maps as told", 1, low.season(5, 1, 0, 40));
+        // A ship of 5 gets through where it is 5 to 9 deep and the map shows 5 to 8.
+        DayOldMaps walks = Checks.with("af0w1");
+        int[] passed = {0, 0, 0, 0, 0, 0, 0, 1, 2, 3, 4, 4, 4};
+        for (int n = 0; n < passed.length; n++) {
+            checks.due("a walk of " + n, passed[n], walks.season(1, 5, 0, n));
+        }
+        checks.due("a walk from night 8 on", 2, walks.season(1, 5, 8, 8));
         checks.due("n -1", BAD, maps.season(0, 1, 0, -1));
         checks.due("n 41", BAD, maps.season(0, 1, 0, 41));
         checks.due("no delta", 0, new DayOldMaps().season(0, 1, 0, 40));

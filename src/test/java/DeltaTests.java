@@ -74,6 +74,12 @@ final class DeltaTests {
         checks.due("odds stay", 9, maps.count(4));
         Checks.type(maps, "??");
         checks.due("wipe() with a fault", 2, maps.wipe());
+        DayOldMaps again = Checks.with("bf1j1;af1j1;af1j1");
+        again.wipe();
+        Checks.type(again, "af5j1;af5j1");
+        checks.due("the least of a new text", 0, again.ways(5, 0, 0));
+        checks.due("the safest of a new text", 0, again.safest(5, 0, 0));
+        checks.due("rows of a new text", 2, again.count(7));
     }
 
     private void undoing() {

@@ -191,6 +191,7 @@ final class SheetTests {
         checks.due("the most rows", 324, most.count(7));
         checks.due("one that jumps", 1, Checks.with("af1j1").count(6));
         checks.due("channels of depth 0 count", 1, Checks.with("af0s1").count(7));
+        checks.due("walking ones of depth 0 count", 1, Checks.with("af0w1").count(7));
     }
 
     private void digesting() {

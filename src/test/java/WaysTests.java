@@ -39,6 +39,12 @@ final class WaysTests {
         checks.due("ways in a storm", 2, maps.ways(1, 7, NONE));
         checks.due("ways in a storm, second", 1, maps.ways(1, 7, 1));
         checks.due("ways behind the storm", 4, maps.ways(1, 8, NONE));
+        DayOldMaps shifts = Checks.with("af5w1;af7s1");
+        int[][] byNight = {{1, 1}, {2, 0}, {1, 0}, {1, 0}, {1, 0}, {0, NONE}};
+        for (int night = 0; night < byNight.length; night++) {
+            checks.due("ways in night " + night, byNight[night][0], shifts.ways(6, night, NONE));
+            checks.due("the least in night " + night, byNight[night][1], shifts.ways(6, night, 0));
+        }
         checks.due("i below", BAD, maps.ways(1, 0, -2));
         checks.due("i above", BAD, maps.ways(1, 0, 5));
         // The first unlike channel tells, not how many channels a row has.
@@ -156,6 +162,7 @@ final class WaysTests {
         steady.storm(50);
         // In 50 a ship of 5 runs aground both ways, in 51 no row is deep enough both ways.
         checks.due("of 5 by map alone", 0, steady.saved(5, 1));
+        checks.due("of 5 by change alone", 0, steady.saved(5, 0));
         // In 51 the maps show 5, then 4, so that 3 is reckoned; a ship of 4 goes by the map.
         checks.due("of 4 by map alone", 1, steady.saved(4, 1));
         checks.due("of 4 by change alone", 0, steady.saved(4, 0));
